@@ -45,8 +45,10 @@ public final class RandomRuns {
         }
         while (rows.size() < CALLS && !wrong) {
             int kind = random.nextInt(100);
-            if (kind < 2) {
+            if (kind < 2 || real.count(2) == 0 && kind < 20) {
                 giveText(texts.town(), true);
+            } else if (kind == 2) {
+                stateALot();
             } else if (kind < 5) {
                 giveText(texts.rule(), false);
             } else if (kind < 8) {
@@ -136,6 +138,21 @@ public final class RandomRuns {
         int rule = some(real.count(4));
         int n = random.nextInt(4) == 0 ? some(98) : 1 + random.nextInt(9);
         check("run(" + rule + ", " + n + ")", real.run(rule, n), due.run(rule, n));
+    }
+
+    private void stateALot() {
+        for (int i = random.nextInt(14); i > 0; i--) {
+            int a = person();
+            int f = fact();
+            int v = some(2);
+            check("stated(" + a + ", " + f + ", " + v + ")", real.stated(a, f, v), due.stated(a, f, v));
+        }
+        for (int what = 0; what < 5; what++) {
+            check("truths(" + what + ")", real.truths(what), due.truths(what));
+        }
+        for (int what = 0; what < 2; what++) {
+            check("ask(" + what + ")", real.ask(what), due.ask(what));
+        }
     }
 
     private void askSomething() {

@@ -1,4 +1,6 @@
+import java.util.HashSet;
 import java.util.Random;
+import java.util.Set;
 
 /** Draws texts of towns and of rules, some of them with a fault. */
 final class TextMaker {
@@ -8,6 +10,10 @@ final class TextMaker {
         "lie", "say", "or", "and", "not", "[", "]", "<", "=", ">", "<=", ">=", "+", "-", "*", "/", "%", ";", " ",
         "0", "1", "7", "99", "100", "99999", "100000", "x", "A", "\u0000", "\u00ff", "so", "day"};
     private final Random random;
+    /** Streets and how many ifs and harms the town that is drawn has, for most towns are to be without a fault. */
+    private final Set<String> streets = new HashSet<>();
+    private int ifs;
+    private int harms;
 
     TextMaker(Random random) {
         this.random = random;
@@ -23,6 +29,9 @@ final class TextMaker {
     }
 
     String town() {
+        streets.clear();
+        ifs = 0;
+        harms = 0;
         int facts = 1 + below(8);
         int people = below(12) == 0 ? below(9) : 3 + below(5);
         StringBuilder b = new StringBuilder();
@@ -33,40 +42,46 @@ final class TextMaker {
         if (below(3) == 0) {
             b.append(";correct");
         }
-        int clauses = below(36);
+        int clauses = below(20) == 0 ? 45 : below(30);
         String before = b.toString();
         for (int i = 0; i < clauses && b.length() <= 400; i++) {
             before = b.toString();
             b.append(gap()).append(';').append(gap());
-            addTownClause(b, facts, people);
+            addTownClause(b, facts, people, clauses == 45);
         }
         return b.length() > 400 ? before : b.toString();
     }
 
-    private void addTownClause(StringBuilder b, int facts, int people) {
-        int one = below(people + 1) * (people > 0 ? 1 : 0) % Math.max(people, 1);
-        int other = people < 2 ? 1 : below(40) == 0 ? one : (one + 1 + below(people - 1)) % people;
-        int f = below(facts);
-        int g = facts < 2 ? 1 : below(40) == 0 ? f : (f + 1 + below(facts - 1)) % facts;
-        switch (below(9)) {
-            case 0, 1, 2 -> b.append("street ").append(one).append(' ').append(other);
-            case 3, 4 -> b.append("trust ").append(one).append(' ').append(other).append(' ').append(below(10));
-            case 5, 6 -> {
-                if (facts > 1) {
-                    b.append("if ").append(f).append(' ').append(below(2)).append(' ').append(g).append(' ')
-                            .append(below(2));
-                } else {
-                    b.append("harm 0 0 1");
-                }
-            }
-            case 7 -> b.append("harm ").append(f).append(' ').append(below(2)).append(' ').append(1 + below(99));
-            default -> b.append("child ").append(one);
+    private void addTownClause(StringBuilder b, int facts, int people, boolean shortOnes) {
+        int one = people == 0 ? 0 : below(people);
+        int other = people < 2 ? 0 : (one + 1 + below(people - 1)) % people;
+        boolean newStreet = streets.size() < 10 && people > 1
+                && streets.add(Math.min(one, other) + "-" + Math.max(one, other));
+        boolean careless = below(150) == 0;
+        int kind = shortOnes ? 9 : below(9);
+        if (careless || kind < 3 && newStreet) {
+            b.append("street ").append(one).append(' ').append(other);
+        } else if (kind < 4 && people > 1) {
+            b.append("trust ").append(one).append(' ').append(other).append(' ').append(below(10));
+        } else if (kind < 7 && facts > 1 && (ifs < 10 || careless)) {
+            int f = below(facts);
+            b.append("if ").append(f).append(' ').append(below(2)).append(' ')
+                    .append((f + 1 + below(facts - 1)) % facts).append(' ').append(below(2));
+            ifs++;
+        } else if (kind < 9 && (harms < 10 || careless) || people == 0) {
+            b.append("harm ").append(below(facts)).append(' ').append(below(2)).append(' ').append(1 + below(99));
+            harms++;
+        } else {
+            b.append("child ").append(one);
         }
     }
 
     String rule() {
         StringBuilder b = new StringBuilder();
-        int clauses = 1 + below(below(10) == 0 ? 14 : 4);
+        if (below(25) == 0) {
+            return "say 1" + ";say day".repeat(10 + below(4));
+        }
+        int clauses = 1 + below(4);
         String before = "say 1";
         for (int i = 0; i < clauses && b.length() <= 400; i++) {
             before = i == 0 ? before : b.toString();

@@ -136,6 +136,13 @@ public final class LanguagePromises {
         Check.townFault("facts 1 0;person 0;person 0;street 0 1;street 1 ^0", 1);
         Check.townFault("facts 1 0;person 0;person 0;street 0 1;street 0 ^1", 1);
         Check.townFault("facts 1 0;person 0;street ^1 0;person 0", 1);
+        Check.townFault("facts 1 0;person 0;street 0 ^1;person 0", 1);
+        Check.townFault("facts 1 0;person 0;street 0 ^7", 1);
+        Check.townFault("^" + ";".repeat(400), 0);
+        Check.townFault("facts 1 0;person 0^" + "]".repeat(382), 0);
+        Check.townFault("facts 1 0;person 0;^" + "a".repeat(381), 0);
+        Check.townFault("facts 1 0;person ^" + "1".repeat(383), 1);
+        Check.townFault(" ".repeat(391) + "facts 1 ^2", 1);
         Check.townFault("facts 2 0;if 0 0 ^0 1", 1);
         Check.townFault("facts 2 0;if ^2 0 0 1", 1);
         Check.townFault("facts 2 0;if 0 ^2 1 1", 1);
@@ -269,6 +276,18 @@ public final class LanguagePromises {
         Check.ruleFault("lie so = 1 ^not so = 1", 0);
         Check.ruleFault("lie ^lie = 1", 0);
         Check.ruleFault("lie ^person = 1", 0);
+        Check.ruleFault("^" + "[".repeat(400), 0);
+        Check.ruleFault("lie " + "[".repeat(10) + "^" + "[".repeat(386), 2);
+        Check.ruleFault("say 1^" + "]".repeat(395), 0);
+        Check.due("a full tape", Check.rule(new DailyLie(), "say 1" + " ".repeat(395)), 0);
+        DailyLie x = Check.inTown("facts 1 0;person 0;person 0;street 0 1");
+        for (int i = 0; i < 12; i++) {
+            Check.due("a long fault", Check.rule(x, "lie 1=1" + " or 1=1".repeat(18) + "]"), -2 - (1 + 8 * 133));
+        }
+        Check.due("a rule behind long faults", Check.rule(x, "lie 1=2" + " or 1=2".repeat(18) + " or said=0"), 0);
+        x.charter(0);
+        Check.due("it works", x.would(0, 1, 0, 0), 1);
+        Check.due("it works", x.would(0, 1, 0, 1), 0);
     }
 
     private static void ruleLimits() {

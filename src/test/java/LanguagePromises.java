@@ -157,6 +157,13 @@ public final class LanguagePromises {
         Check.townFault("facts 1 0;correct;^correct", 4);
         Check.townFault("facts 1 0;correct ^1", 0);
         Check.townFault("facts 1 0;^correctcorrect", 0);
+        Check.townFault("facts 1 0;^correctz", 0);
+        Check.townFault("facts 1 0;^correcta", 0);
+        Check.townFault("facts 1 0;correct^{", 0);
+        Check.townFault("facts 1 0;correct^`", 0);
+        Check.townFault("facts 1^: 0", 0);
+        Check.townFault("facts 1^/ 0", 0);
+        Check.townFault("facts 1 0^\t;person 0", 0);
     }
 
     private static void townLimits() {

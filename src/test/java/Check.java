@@ -2,15 +2,21 @@
 final class Check {
     private static int wrong;
     private static int checked;
+    private static String about = "";
 
     private Check() {
+    }
+
+    /** The checks that follow hold the program to these words of the document's present section. */
+    static void quote(String words) {
+        about = Doc.quote(words) + ": ";
     }
 
     static void due(String call, int got, int want) {
         checked++;
         if (got != want) {
             wrong++;
-            System.out.println(call + " answered " + got + ", due is " + want);
+            System.out.println(about + call + " answered " + got + ", due is " + want);
         }
     }
 
@@ -43,6 +49,14 @@ final class Check {
         return x;
     }
 
+    /** In a town by a charter, which is rule 0. */
+    static DailyLie byCharter(String town, String rule) {
+        DailyLie x = inTown(town);
+        due("rule " + rule, rule(x, rule), 0);
+        due("charter(0)", x.charter(0), -1);
+        return x;
+    }
+
     /** The fault of a town's text is of a kind at the place of the sign ^, which is not in the text. */
     static void townFault(String marked, int kind) {
         DailyLie x = new DailyLie();
@@ -56,6 +70,15 @@ final class Check {
         due("the rules behind a fault", x.count(4), 0);
     }
 
+    /** A text that has no fault. */
+    static void townFine(String text, int people) {
+        due("town " + text, town(new DailyLie(), text), people);
+    }
+
+    static void ruleFine(String text) {
+        due("rule " + text, rule(new DailyLie(), text), 0);
+    }
+
     private static String unmarked(String marked) {
         return marked.replace("^", "");
     }
@@ -64,8 +87,25 @@ final class Check {
         return -2 - (1 + 8 * marked.indexOf('^') + kind);
     }
 
+    static void held(DailyLie x, int person, int fact, int value, int strength, int believed) {
+        String call = "holds(" + person + ", " + fact + ", ";
+        due(call + "0)", x.holds(person, fact, 0), value);
+        due(call + "1)", x.holds(person, fact, 1), strength);
+        due(call + "2)", x.holds(person, fact, 2), believed);
+    }
+
     static void finish(String name) {
         System.out.println(name + ": " + checked + " answers, " + wrong + " not as due");
         System.exit(wrong == 0 && checked > 0 ? 0 : 1);
+    }
+
+    /** As finish, but each word of the document must have been quoted as well. */
+    static void finishQuoting(String name) {
+        about = "";
+        for (String fault : Doc.faults()) {
+            wrong++;
+            System.out.println(fault);
+        }
+        finish(name);
     }
 }

@@ -129,6 +129,10 @@ final class AnswerEdges {
         DailyLie y = Check.inTown(three + ";trust 1 0 7;trust 1 2 3");
         y.say(0, 1, 0, 0);
         Check.due("the best teller", y.evening(), 10 + 1 + 10);
+        // 0 would believe nothing that 2 says, but there is no street between them: the lie is told by 1.
+        DailyLie apart = Check.inTown(three + ";trust 0 2 0");
+        apart.say(1, 0, 0, 0);
+        Check.due("only along streets", apart.evening(), 30);
         Check.quote("(without one: their HARM as it is)");
         DailyLie alone = Check.inTown("facts 1 0;person 1;person 0;person 0;street 1 2;harm 0 0 4;harm 0 1 9");
         Check.due("0 has no street", alone.evening(), 4 + 9 + 9);
@@ -409,6 +413,31 @@ final class AnswerEdges {
         Check.due("nothing can be undone", z.undo(), -1);
         z.hour();
         Check.due("what comes then can", z.undo(), 0);
+        imageOfStated();
+    }
+
+    private static void imageOfStated() {
+        DailyLie x = Check.inTown("facts 2 0;person 0");
+        for (int i = 0; i < 11; i++) {
+            x.stated(0, 0, 1);
+        }
+        x.stated(0, 1, 1);
+        x.tale(3, true);
+        x.tale(4, false);
+        x.image(0);
+        x.stated(-1, 0, 0);
+        x.tale(-1, true);
+        for (int i = 0; i < 12; i++) {
+            x.stated(0, 0, 0);
+        }
+        x.tale(0, true);
+        x.tale(1, false);
+        Check.due("other things stated", x.truths(0), 4);
+        both("other tales", x.schedules(5, 1, 0), x.schedules(5, 1, 1), 1, 1);
+        x.back(0);
+        Check.due("what was stated", x.truths(0), 2);
+        both("what was told", x.schedules(5, 1, 0), x.schedules(5, 1, 1), 1, 8);
+        both("what was told, not a lie", x.schedules(5, 4, 0), x.schedules(5, 4, 1), 1, 15);
     }
 
     /** Changes all that an image keeps, and adds a rule, which stays. */

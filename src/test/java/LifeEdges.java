@@ -125,6 +125,8 @@ final class LifeEdges {
         Check.due("no test holds though it is not so", never.say(0, 1, 0, 1), 0);
         DailyLie many = Check.byCharter(TWO, "lie 1=2;".repeat(11) + "lie 1=1");
         Check.due("the twelfth test", many.say(0, 1, 0, 0), 1);
+        DailyLie none = Check.byCharter(TWO, "lie 1=2" + ";lie 1=2".repeat(11));
+        Check.due("none of twelve", none.say(0, 1, 0, 1), 0);
         Check.quote("without a RULE, or a lie CLAUSE, if it is not as it is.");
         for (int so = 0; so < 2; so++) {
             String town = "facts 1 " + so + ";person 0;person 0;street 0 1";
@@ -268,6 +270,12 @@ final class LifeEdges {
         y.undo();
         Check.held(y, 1, 0, 0, 5, 0);
         Check.held(y, 1, 1, 2, 0, 1);
+        DailyLie full = Check.inTown("facts 8 1" + ";person 255".repeat(7) + ";correct");
+        full.midnight();
+        for (int person = 0; person < 7; person++) {
+            Check.held(full, person, 0, 1, 10, 1);
+            Check.held(full, person, 7, 0, 10, 0);
+        }
     }
 
     /** Beyond the 512 calls of which the document speaks, for no fewer reach this day: the class goes on all the same. */
@@ -436,6 +444,7 @@ final class LifeEdges {
         Check.due("the first whose test holds", said("say 0 if fact = 3;say 5 if fact = 2;say fact + 1"), 4);
         Check.due("the first without a test", said("say 2;say 9 if fact = 3"), 0);
         Check.due("the twelfth", said("say 0 if fact < 3;".repeat(11) + "say 1"), 6);
+        Check.due("none of twelve", said("say 1 if 1=2" + ";say 1 if 1=2".repeat(11)), -1);
         Check.quote("of several the first by hearers, FACTS, 0 ahead of 1");
         Check.due("the first fact and 0", said("say 1 if fact > 1"), 4);
         Check.due("0 ahead of 1", said("say fact"), 6);

@@ -20,21 +20,14 @@ public final class LifePromises {
         Check.finish("promises 7 to 16 and 30 to 32");
     }
 
-    private static void held(DailyLie x, int person, int fact, int value, int strength, int believed) {
-        String call = "holds(" + person + ", " + fact + ", ";
-        Check.due(call + "0)", x.holds(person, fact, 0), value);
-        Check.due(call + "1)", x.holds(person, fact, 1), strength);
-        Check.due(call + "2)", x.holds(person, fact, 2), believed);
-    }
-
     private static void heldAtFirst() {
         DailyLie x = Check.inTown(TOWN);
-        held(x, 0, 0, 1, 10, 1);
-        held(x, 0, 1, 0, 10, 0);
-        held(x, 0, 2, 1, 10, 1);
-        held(x, 1, 0, 2, 0, 2);
-        held(x, 2, 0, 1, 10, 1);
-        held(x, 2, 1, 2, 0, 2);
+        Check.held(x, 0, 0, 1, 10, 1);
+        Check.held(x, 0, 1, 0, 10, 0);
+        Check.held(x, 0, 2, 1, 10, 1);
+        Check.held(x, 1, 0, 2, 0, 2);
+        Check.held(x, 2, 0, 1, 10, 1);
+        Check.held(x, 2, 1, 2, 0, 2);
         for (int odd : ODD) {
             Check.due("holds(odd, 0, 0)", x.holds(odd, 0, 0), -1);
             Check.due("holds(0, odd, 0)", x.holds(0, odd, 0), -1);
@@ -68,48 +61,48 @@ public final class LifePromises {
         DailyLie x = Check.inTown("facts 1 1;person 1;person 0;person 0;person 0;trust 1 0 4;trust 1 2 3;trust 1 3 4;"
                 + "trust 0 1 9;trust 3 1 0;street 0 1;street 1 2;street 1 3");
         Check.due("told what is not so", x.say(0, 1, 0, 0), 1);
-        held(x, 1, 0, 0, 4, 0);
+        Check.held(x, 1, 0, 0, 4, 0);
         Check.due("less trust", x.say(2, 1, 0, 1), 0);
-        held(x, 1, 0, 0, 4, 0);
+        Check.held(x, 1, 0, 0, 4, 0);
         Check.due("as much trust", x.say(3, 1, 0, 1), 0);
-        held(x, 1, 0, 1, 4, 1);
+        Check.held(x, 1, 0, 1, 4, 1);
         Check.due("who knows is not moved", x.say(1, 0, 0, 0), 1);
-        held(x, 0, 0, 1, 10, 1);
+        Check.held(x, 0, 0, 1, 10, 1);
         Check.due("no trust, but nothing is held", x.say(1, 3, 0, 0), 1);
-        held(x, 3, 0, 0, 0, 0);
+        Check.held(x, 3, 0, 0, 0, 0);
         Check.due("no trust against strength 0", x.say(1, 3, 0, 1), 0);
-        held(x, 3, 0, 1, 0, 1);
+        Check.held(x, 3, 0, 1, 0, 1);
         DailyLie y = Check.inTown("facts 1 1;person 1;person 0;person 0;trust 1 0 4;trust 1 2 7;street 0 1;street 2 1");
         y.say(0, 1, 0, 1);
-        held(y, 1, 0, 1, 4, 1);
+        Check.held(y, 1, 0, 1, 4, 1);
         y.say(2, 1, 0, 1);
-        held(y, 1, 0, 1, 7, 1);
+        Check.held(y, 1, 0, 1, 7, 1);
     }
 
     private static void beliefs() {
         DailyLie x = Check.inTown(TOWN);
         x.say(0, 1, 1, 1);
-        held(x, 1, 1, 1, 3, 1);
-        held(x, 1, 2, 2, 0, 0);
+        Check.held(x, 1, 1, 1, 3, 1);
+        Check.held(x, 1, 2, 2, 0, 0);
         Check.due("harm of what follows, too", x.person(1, 1), 10);
         Check.due("no contradiction", x.person(1, 2), 0);
         x.say(0, 1, 2, 1);
-        held(x, 1, 2, 1, 3, 1);
+        Check.held(x, 1, 2, 1, 3, 1);
         Check.due("harm", x.person(1, 1), 4);
         Check.due("a contradiction", x.person(1, 2), 1);
         // The first if in the order told goes ahead, again and again from the start.
         DailyLie y = Check.inTown("facts 4 0;person 0;person 0;street 0 1;if 1 1 2 1;if 0 1 2 0;if 0 1 1 1;if 2 0 3 1");
         y.say(0, 1, 0, 1);
-        held(y, 1, 2, 2, 0, 0);
-        held(y, 1, 1, 2, 0, 1);
-        held(y, 1, 3, 2, 0, 1);
+        Check.held(y, 1, 2, 2, 0, 0);
+        Check.held(y, 1, 1, 2, 0, 1);
+        Check.held(y, 1, 3, 2, 0, 1);
         Check.due("1 so, but not 2", y.person(1, 2), 1);
         DailyLie z = Check.inTown("facts 4 0;person 0;person 0;street 0 1;if 1 1 2 1;if 0 1 1 1;if 0 1 2 0;if 2 1 0 0");
         z.say(0, 1, 0, 1);
-        held(z, 1, 2, 2, 0, 1);
+        Check.held(z, 1, 2, 2, 0, 1);
         Check.due("two contradictions", z.person(1, 2), 2);
         DailyLie w = Check.inTown("facts 2 0;person 3;person 1;if 0 0 1 1;harm 1 1 99;harm 1 1 98;harm 0 0 1;harm 0 1 50");
-        held(w, 1, 1, 2, 0, 1);
+        Check.held(w, 1, 1, 2, 0, 1);
         Check.due("all harms together", w.person(1, 1), 198);
         Check.due("who knows better", w.person(0, 1), 1);
         Check.due("known contradictions", w.person(0, 2), 1);
@@ -155,9 +148,9 @@ public final class LifePromises {
         String town = "facts 3 5;person 7;person 0;trust 1 0 3;street 1 0;harm 1 1 9";
         DailyLie x = Check.inTown(town);
         Check.due("all is true", x.meet(1, 0), 0);
-        held(x, 1, 0, 1, 3, 1);
-        held(x, 1, 1, 0, 3, 0);
-        held(x, 1, 2, 1, 3, 1);
+        Check.held(x, 1, 0, 1, 3, 1);
+        Check.held(x, 1, 1, 0, 3, 0);
+        Check.held(x, 1, 2, 1, 3, 1);
         Check.due("one act", x.count(12), 1);
         Check.due("nothing is left to say", x.meet(0, 1), 0);
         Check.due("an act all the same", x.count(12), 2);
@@ -168,29 +161,29 @@ public final class LifePromises {
         y.image(0);
         y.charter(0);
         Check.due("1 says fact 1 to 0 alone", y.meet(0, 1), 1);
-        held(y, 0, 1, 0, 2, 0);
-        held(y, 1, 0, 1, 2, 1);
+        Check.held(y, 0, 1, 0, 2, 0);
+        Check.held(y, 1, 0, 1, 2, 1);
         y.back(0);
         y.charter(1);
         Check.due("0 says fact 0 to 1 alone", y.meet(0, 1), 1);
         // The hearer who keeps what they hold says it back.
         DailyLie z = Check.inTown("facts 1 0;person 0;person 1;person 0;street 0 1;street 0 2;trust 0 2 5;trust 0 1 4");
         z.say(2, 0, 0, 1);
-        held(z, 0, 0, 1, 5, 1);
+        Check.held(z, 0, 0, 1, 5, 1);
         Check.due("0 lies to 1, 1 is not believed", z.meet(1, 0), 1);
-        held(z, 1, 0, 0, 10, 0);
-        held(z, 0, 0, 1, 5, 1);
+        Check.held(z, 1, 0, 0, 10, 0);
+        Check.held(z, 0, 0, 1, 5, 1);
         Check.due("1 was lied to", z.person(1, 0), 1);
         DailyLie w = Check.inTown("facts 1 0;person 1;person 0;person 0;street 0 1;street 1 2;trust 1 0 5;trust 1 2 5");
         w.say(2, 1, 0, 1);
         Check.due("the lesser one goes ahead, and is believed", w.meet(1, 0), 0);
-        held(w, 1, 0, 0, 5, 0);
+        Check.held(w, 1, 0, 0, 5, 0);
         w.say(2, 1, 0, 1);
         Check.due("1 lies to 2", w.meet(2, 1), 1);
         w.say(0, 1, 0, 0);
         w.say(1, 2, 0, 1);
         Check.due("1 undoes it", w.meet(2, 1), 0);
-        held(w, 2, 0, 0, 5, 0);
+        Check.held(w, 2, 0, 0, 5, 0);
         Check.due("no street", w.meet(0, 2), -1);
         Check.due("alike", w.meet(1, 1), -1);
         for (int odd : ODD) {
@@ -221,16 +214,16 @@ public final class LifePromises {
         Check.due("HOUR", x.count(7), 0);
         Check.due("nobody was lied to", x.person(1, 0), 0);
         Check.due("LIES that DAY", x.count(8), 0);
-        held(x, 1, 1, 1, 3, 1);
+        Check.held(x, 1, 1, 1, 3, 1);
         Check.due("midnight()", x.midnight(), 2);
         DailyLie y = Check.inTown(TOWN + ";correct");
         y.say(0, 1, 1, 1);
         y.say(0, 1, 0, 1);
         Check.due("midnight()", y.midnight(), 1);
-        held(y, 1, 1, 2, 0, 2);
-        held(y, 1, 2, 2, 0, 2);
-        held(y, 1, 0, 1, 3, 1);
-        held(y, 0, 1, 0, 10, 0);
+        Check.held(y, 1, 1, 2, 0, 2);
+        Check.held(y, 1, 2, 2, 0, 2);
+        Check.held(y, 1, 0, 1, 3, 1);
+        Check.held(y, 0, 1, 0, 10, 0);
         Check.due("HARM is gone", y.person(1, 1), 0);
     }
 
@@ -245,7 +238,7 @@ public final class LifePromises {
         x.meet(1, 2);
         Check.due("5 acts", x.count(12), 5);
         Check.due("undo meet", x.undo(), 4);
-        held(x, 2, 1, 2, 0, 2);
+        Check.held(x, 2, 1, 2, 0, 2);
         Check.due("undo midnight", x.undo(), 3);
         Check.due("HOUR", x.count(7), 1);
         Check.due("DAY", x.count(6), 0);
@@ -255,9 +248,9 @@ public final class LifePromises {
         Check.due("HOUR", x.count(7), 0);
         Check.due("undo say", x.undo(), 1);
         Check.due("no breach", x.breach(1), -2);
-        held(x, 1, 2, 2, 0, 0);
+        Check.held(x, 1, 2, 2, 0, 0);
         Check.due("undo say", x.undo(), 0);
-        held(x, 1, 1, 2, 0, 2);
+        Check.held(x, 1, 1, 2, 0, 2);
         Check.due("all undone", x.undo(), -1);
         for (int i = 1; i <= 23; i++) {
             x.hour();
@@ -288,16 +281,16 @@ public final class LifePromises {
         x.hour();
         x.undo();
         Check.due("run(0, 1)", x.run(0, 1), 1);
-        held(x, 1, 1, 1, 3, 1);
+        Check.held(x, 1, 1, 1, 3, 1);
         Check.due("HOUR", x.count(7), 1);
         Check.due("nothing can be undone", x.undo(), -1);
         // Hour 1: 1 to 0 nothing (all heard), to 2: facts 1 with 5, 2 with 1.
         Check.due("run(0, 1)", x.run(0, 1), 1);
-        held(x, 2, 1, 1, 8, 1);
-        held(x, 2, 2, 2, 0, 0);
+        Check.held(x, 2, 1, 1, 8, 1);
+        Check.held(x, 2, 2, 2, 0, 0);
         // Hour 2: 2 to 1: fact 0 alone, with 1: so it is.
         Check.due("run(0, 1)", x.run(0, 1), 0);
-        held(x, 1, 0, 1, 5, 1);
+        Check.held(x, 1, 0, 1, 5, 1);
         Check.due("nothing more to say", x.run(0, 20), 0);
         Check.due("HOUR", x.count(7), 23);
         Check.due("DAY", x.count(6), 0);
@@ -441,7 +434,7 @@ public final class LifePromises {
         Check.due("who, too", x.breach(1), 1);
         Check.due("tales are back", x.schedules(4, 1, 1), 8);
         Check.due("nothing can be undone", x.undo(), -1);
-        held(x, 1, 1, 1, 3, 1);
+        Check.held(x, 1, 1, 1, 3, 1);
         x.end(0);
         Check.town(x, "facts 1 0;person 0");
         Check.due("images stay in a new town", x.back(1), 3);

@@ -36,6 +36,9 @@ final class TextEdges {
         Check.townFine(text + " ".repeat(382), 1);
         Check.townFine(" ".repeat(382) + text, 1);
         Check.townFine(" ".repeat(381) + text, 1);
+        Check.townFine("facts 1 0;" + " ".repeat(383) + "correct", 0);
+        Check.townFault("facts 1 0;" + " ".repeat(384) + "^correc", 0);
+        Check.townFault("facts 1 0;person 0;" + " ".repeat(376) + "child^", 0);
         Check.quote("CLAUSE { ; CLAUSE }, 40 at most");
         Check.townFine("facts 1 0", 0);
         Check.townFine(text + ";child 0".repeat(37), 1);
@@ -257,6 +260,8 @@ final class TextEdges {
         Check.quote("SUM: TERM { (+ or -) TERM }");
         holds("9 - 4 - 3 = 2", 1);
         holds("9 - 4 + 3 = 8", 1);
+        holds("9 - 4 = 9 or 9 - 4 = 4 or 9 - 4 = 13 or 9 - 4 + 3 = 2", 0);
+        holds("9 + 4 = 9 or 9 + 4 = 4 or 9 + 4 = 5 or 9 - 4 - 3 = 8", 0);
         holds("1 + 2 + 3 + 4 = 10", 1);
         Check.ruleFault("say 1 +^", 0);
         Check.ruleFault("say ^+ 1", 0);
@@ -264,6 +269,9 @@ final class TextEdges {
         Check.ruleFault("say 1 - ^- 1", 0);
         Check.quote("TERM: VALUE { (* or / or %) VALUE }");
         holds("2 * 9 / 4 = 4", 1);
+        holds("2 * 9 / 4 = 5 or 9 / 4 = 1 or 9 / 4 = 9 or 9 / 4 = 4", 0);
+        holds("9 % 4 = 0 or 9 % 4 = 9 or 9 % 4 = 4 or 9 % 4 = 2", 0);
+        holds("9 * 4 = 0 or 9 * 4 = 9 or 9 * 4 = 4 or 9 * 4 = 13", 0);
         holds("9 / 4 * 2 = 4", 1);
         holds("9 % 5 * 2 = 8", 1);
         holds("2 + 3 * 4 - 10 / 5 = 12", 1);
@@ -286,6 +294,11 @@ final class TextEdges {
     private static void words() {
         Check.quote("WORDS (small letters, as far as these go on) of a SAYING: teller, hearer, fact, said (0 or 1)");
         Check.ruleFault("say ^sos", 0);
+        Check.ruleFault("say ^soz", 0);
+        Check.ruleFault("say ^aso", 0);
+        Check.townFault("facts 1 0;^correctz", 0);
+        Check.townFault("facts 1 0;correct^{", 0);
+        Check.townFault("facts 1 0;correct^`", 0);
         Check.ruleFault("say ^s", 0);
         Check.ruleFault("say so^S", 0);
         Check.ruleFault("say ^SO", 0);
@@ -370,6 +383,9 @@ final class TextEdges {
         Check.due("the other way", x.would(0, 1, 0, 0), 0);
         x = Check.byCharter(town, "lie harm = 3");
         Check.due("the other way", x.would(0, 1, 0, 0), 1);
+        x = Check.byCharter("facts 1 0;person 0;person 0;street 0 1" + ";harm 0 1 99".repeat(10), "lie harm = 990");
+        Check.due("the most", x.would(0, 1, 0, 1), 1);
+        Check.due("the other way", x.would(0, 1, 0, 0), 0);
         x = Check.byCharter(town, "lie harm = 0");
         Check.due("no harm of it", x.would(0, 1, 1, 1), 1);
         Check.due("harm of it", x.would(0, 1, 1, 0), 0);
@@ -379,11 +395,15 @@ final class TextEdges {
         Check.quote("second (1 if it is passed on in a MEETING, else 0)");
         DailyLie x = Check.byCharter("facts 1 0;person 1;person 0;street 0 1", "lie second = 1");
         Check.due("by hand", x.would(0, 1, 0, 0), 0);
+        Check.rule(x, "lie second = 0");
+        x.charter(1);
+        Check.due("0 by hand", x.would(0, 1, 0, 0), 1);
+        x.charter(0);
         Check.due("passed on", x.meet(0, 1), 1);
         Check.due("by hand, behind a meeting", x.say(0, 1, 0, 0), 0);
         Check.due("would, behind a meeting", x.would(0, 1, 0, 0), 0);
         Check.rule(x, "say 1 - second");
-        Check.due("by a rule", x.run(1, 3), 0);
+        Check.due("by a rule", x.run(2, 3), 0);
         Check.due("by a rule it is said", x.holds(1, 0, 0), 0);
         Check.due("in years", x.years(1, 2, 0), 0);
     }
@@ -396,6 +416,8 @@ final class TextEdges {
         holds(MOST_NEGATIVE + " % 10 + 8 = 0", 1);
         holds("7 / 0 = 0 and 7 % 0 = 0 and 0 / 0 = 0 and 0 % 0 = 0", 1);
         holds("7 / 0 + 1 = 1 and 3 + 7 % 0 * 5 = 3", 1);
+        holds("7 / 0 > 0 or 7 / 0 < 0 or 7 % 0 > 0 or 7 % 0 < 0 or 0 / 0 > 0 or 0 % 0 > 0", 0);
+        holds(MOST_NEGATIVE + " % 10 >= 0 or " + MOST_NEGATIVE + " / 10 * 10 = " + MOST_NEGATIVE + " or 4 / 5 > 0", 0);
         holds(MOST_NEGATIVE + " < 0 and 0 - " + MOST_NEGATIVE + " < 0", 1);
         holds(MOST_NEGATIVE + " - 1 > 0", 1);
         holds(MOST_NEGATIVE + " - 1 + 1 < 0", 1);
@@ -438,6 +460,11 @@ final class TextEdges {
         Check.ruleFault("lie 1=1" + " or 1=1".repeat(19) + " or ^1=1", 3);
         Check.ruleFine("say 1" + "+1".repeat(56) + " if not [1=1]");
         Check.ruleFault("say 1" + "+1".repeat(56) + " if not [1=1];say ^1", 3);
+        DailyLie x = new DailyLie();
+        for (int rule = 0; rule < 3; rule++) {
+            Check.due("60 in each rule", Check.rule(x, "say 1" + "+1".repeat(59)), rule);
+            Check.due("61", Check.rule(x, "say 1" + "+1".repeat(60)), -2 - (1 + 8 * 124 + 3));
+        }
     }
 
     private static void faults() {
@@ -474,6 +501,7 @@ final class TextEdges {
         for (String word : new String[] {"facts", "person", "street", "if", "correct", "lie", "say", "or", "and", "not"}) {
             Check.ruleFault("say ^" + word, 0);
         }
+        numbersAreNoSigns();
         Check.quote("or the end (behind the last byte)");
         Check.townFault("^", 0);
         Check.townFault(" ".repeat(400) + "^", 0);
@@ -488,6 +516,20 @@ final class TextEdges {
             "lie 1=1 and", "say", "say 1+", "say 1-", "say 1*", "say 1/", "say 1%", "say 1 if", "say 1;"}) {
             Check.ruleFault(rule + "^", 0);
             Check.ruleFault(rule + "  ^", 0);
+        }
+    }
+
+    /** Nor are they words: numbers that a sign or word has inside stand for nothing but themselves. */
+    private static void numbersAreNoSigns() {
+        for (int number = 0; number <= 255; number++) {
+            Check.townFault("facts 1 0 ^" + number + " person 0", 0);
+            Check.townFault("facts 1 0;^" + number + " 0", 0);
+            Check.ruleFault("^" + number + " 1", 0);
+            Check.ruleFault("say 1 ^" + number + " 1", 0);
+            Check.ruleFault("lie 1 ^" + number + " 1", 0);
+            Check.ruleFault("lie 1 = 1 ^" + number + " 1 = 1", 0);
+            Check.ruleFault("lie [1 = 1 ^" + number, 0);
+            Check.ruleFault("lie " + number + " ^1 = 1]", 0);
         }
     }
 
@@ -671,6 +713,7 @@ final class TextEdges {
         x.midnight();
         Check.held(x, 1, 0, 1, 5, 1);
         Check.due("no child any more", x.person(1, 4), 0);
+        townAnew();
         Check.quote("how many PEOPLE");
         for (int people = 0; people <= 7; people++) {
             Check.townFine("facts 1 0" + ";person 0".repeat(people), people);
@@ -684,6 +727,31 @@ final class TextEdges {
             DailyLie twin = Twins.lively();
             twin.end(0);
             Twins.same("behind a town's fault", faulty, twin);
+        }
+    }
+
+    /** Nothing of the town there was, nor of one with a fault, is left in a new one. */
+    private static void townAnew() {
+        String full = "facts 2 3;person 3;person 3;person 3;trust 0 1 9;trust 2 0 1;street 0 1;street 1 2;if 0 0 1 1;"
+                + "harm 0 0 6;harm 1 1 5;child 0;child 2;correct";
+        for (String text : new String[] {full, full + ";", full + ";x"}) {
+            DailyLie x = new DailyLie();
+            Check.town(x, text);
+            Check.due("a plain town", Check.town(x, "facts 2 0;person 1;person 0;person 0;street 0 2"), 3);
+            Check.held(x, 0, 0, 0, 10, 0);
+            Check.held(x, 0, 1, 2, 0, 2);
+            Check.held(x, 1, 0, 2, 0, 2);
+            Check.held(x, 2, 1, 2, 0, 2);
+            Check.due("HARM", x.count(9), 0);
+            Check.due("contradictions", x.person(0, 2), 0);
+            Check.due("streets", x.person(0, 3), 4);
+            Check.due("streets", x.person(1, 3), 0);
+            Check.due("children", x.person(0, 4) + x.person(2, 4), 0);
+            Check.due("trust", x.trust(0, 1), 5);
+            Check.due("trust", x.trust(2, 0), 5);
+            x.say(0, 2, 0, 1);
+            x.midnight();
+            Check.held(x, 2, 0, 1, 5, 1);
         }
     }
 
@@ -710,6 +778,22 @@ final class TextEdges {
         Check.due("the rule behind it", Check.rule(y, "say 1"), 0);
         y.charter(0);
         Check.due("nothing of the faulty one stays", y.would(0, 1, 0, 0), 0);
+        Check.due("nothing of the faulty one stays", y.would(0, 1, 0, 1), 1);
+        Check.due("a fault behind a say clause", Check.rule(y, "say 0;x"), -2 - (1 + 8 * 6));
+        Check.due("the rule behind it", Check.rule(y, "say 1"), 1);
+        y.run(1, 1);
+        Check.due("it has its own clause alone", y.holds(1, 0, 0), 0);
+        Check.due("a fault behind twelve clauses", Check.rule(y, "say 1;".repeat(12) + "say"), -2 - (1 + 8 * 72 + 4));
+        Check.due("the rule behind it", Check.rule(y, "lie 1 = 1"), 2);
+        y.charter(2);
+        Check.due("it has its own clause", y.would(0, 1, 0, 0), 1);
+        for (int i = 0; i < 5; i++) {
+            Check.due("a long fault", Check.rule(y, "lie 1=1" + " or 1=1".repeat(19) + "]"), -2 - (1 + 8 * 140));
+        }
+        Check.due("a rule behind long faults", Check.rule(y, "lie 1=2" + " or 1=2".repeat(18) + " or said=0"), 3);
+        y.charter(3);
+        Check.due("all of it stands", y.would(0, 1, 0, 0), 1);
+        Check.due("all of it stands", y.would(0, 1, 0, 1), 0);
         Check.quote("NONE, and nothing happens: there are 6.");
         Twins.nothingHappens("a seventh rule", -1, DailyLie::rule, () -> withSixRules("say 1"));
         Twins.nothingHappens("a seventh rule with a fault", -1, DailyLie::rule, () -> withSixRules("x"));

@@ -6,6 +6,8 @@ import java.util.Random;
 public final class RandomRuns {
     private static final int RUNS = 1500;
     private static final int CALLS = 500;
+    private static final int[] WILD = {Integer.MIN_VALUE, Integer.MIN_VALUE + 1, -65536, -8, -3, -2, 7, 8, 15, 16, 31, 32,
+        33, 63, 64, 96, 97, 400, 401, 65536, 1 << 30, Integer.MAX_VALUE - 1, Integer.MAX_VALUE};
 
     private final Random random;
     private final DailyLie real = new DailyLie();
@@ -87,8 +89,13 @@ public final class RandomRuns {
 
     /** Mostly a number that is there, now and then one that is not. */
     private int some(int n) {
-        int r = random.nextInt(30);
-        return r == 0 ? -1 : r == 1 ? n : r == 2 ? random.nextInt() : random.nextInt(Math.max(n, 1));
+        return switch (random.nextInt(40)) {
+            case 0 -> -1;
+            case 1 -> n;
+            case 2 -> random.nextInt();
+            case 3 -> WILD[random.nextInt(WILD.length)];
+            default -> random.nextInt(Math.max(n, 1));
+        };
     }
 
     private int person() {
